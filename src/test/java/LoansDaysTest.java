@@ -179,7 +179,8 @@ public final class LoansDaysTest {
         x.days(2);
         x.lend(0, 1);
         x.days(4);
-        x.set(1, 3, 50);
+        x.set(0, 3, 1);
+        x.set(1, 3, 49);
         x.set(2, 3, 99);
         x.place(1, 1, 20);
         int[] want = {6, 21, 5, 4, 149, 5};

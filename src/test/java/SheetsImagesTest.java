@@ -103,6 +103,7 @@ public final class SheetsImagesTest {
         CHECK.due("0th", x.write(1, 0, 0), 0);
         CHECK.due("1st", x.write(1, 1, 0), 4);
         CHECK.due("2nd", x.write(1, 2, 0), 5);
+        CHECK.due("all onto itself", x.copy(0, 0, 0, 0, 5), 5);
         CHECK.due("onto itself, up", x.copy(0, 0, 0, 1, 4), 4);
         long[] up = {1, 1, 2, 3, 4};
         for (int i = 0; i < up.length; i++) {
@@ -205,6 +206,12 @@ public final class SheetsImagesTest {
         fill(x, 0, 3, 35 + 4);
         CHECK.due("no room, 32 farther", x.read(0, 0), 2);
         CHECK.due("at stays", x.about(0, 0), 3);
+        x.place(0, 0, 0);
+        x.set(1, 1, 0);
+        x.set(1, 2, 15);
+        fill(x, 0, 0, 15, 0, 15);
+        CHECK.due("the first and the last room", x.read(0, 0), 0);
+        x.place(0, 0, 3);
         // A handle whose two rooms are one leads from it to it.
         x.set(1, 1, 3);
         x.set(1, 2, 3);

@@ -40,8 +40,8 @@ public final class TextTest {
     private static void goodTexts() {
         HandleLoans x = new HandleLoans();
         CHECK.due("house", Check.readHouse(x, "handle from 0 to 1;brass from 2 to 3 wear 99;bone from 4 to 5 ; rope from 6 to 7"), 4);
-        CHECK.due("house", Check.readHouse(x, "  knob from8to9wear0;latch   from 015 to 0000010 wear 007 ;member;member at 15;loan 30; loan 0 "), 6);
-        int[][] want = {{0, 0, 1, 0}, {1, 2, 3, 99}, {2, 4, 5, 0}, {3, 6, 7, 0}, {4, 8, 9, 0}, {5, 15, 10, 7}};
+        CHECK.due("house", Check.readHouse(x, "  knob from8to15wear0;latch   from 015 to 0000010 wear 007 ;member;member at 15;loan 30; loan 0 "), 6);
+        int[][] want = {{0, 0, 1, 0}, {1, 2, 3, 99}, {2, 4, 5, 0}, {3, 6, 7, 0}, {4, 8, 15, 0}, {5, 15, 10, 7}};
         for (int h = 0; h < want.length; h++) {
             for (int what = 0; what < 4; what++) {
                 CHECK.due("of(" + h + ", " + what + ")", x.of(h, what), want[h][what]);
@@ -90,6 +90,12 @@ public final class TextTest {
         fault("door from 0 to 1", 0);
         fault("handles from 0 to 1", 0);
         fault("handl from 0 to 1", 0);
+        fault("handlez from 0 to 1", 0);
+        fault("aandle from 0 to 1", 0);
+        fault("handle{from 0 to 1", 6);
+        fault("handle`from 0 to 1", 6);
+        fault("loan 5:", 6);
+        fault("loan 5/", 6);
         fault("handlefrom 0 to 1", 0);
         fault("Handle from 0 to 1", 0);
         fault("5", 0);

@@ -144,6 +144,9 @@ public final class WaysTest {
         x.lend(3, 1);
         CHECK.due("what another holds is none", x.two(0, 2), Check.NONE);
         x.back(3);
+        x.back(0);
+        x.set(0, 1, 0);
+        CHECK.due("two neighbours", x.two(0, 8), 1);
         // A knob 0 - 1 and a bone 1 - 0 would do together but are a pair.
         HandleLoans y = new HandleLoans();
         y.member(8);
