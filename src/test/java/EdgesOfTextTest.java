@@ -153,6 +153,21 @@ public final class EdgesOfTextTest {
             fault(other, 0);
             fault("loan 3;" + other, 7);
         }
+        String[] nearly = {"xandle", "xrass", "xone", "xope", "xnob", "xatch", "handlx", "brasx", "bonx", "ropx", "knox", "latcx"};
+        for (String other : nearly) {
+            fault(other + " from 3 to 4", 0);
+        }
+        fault("xember", 0);
+        fault("membex", 0);
+        fault("xoan 3", 0);
+        fault("loax 3", 0);
+        fault("brass xrom 3 to 4", 6);
+        fault("brass from 3 xo 4", 13);
+        fault("brass from 3 to 4 xear 5", 18);
+        fault("member xt 3", 7);
+        fault("memberz", 0);
+        fault("amember", 0);
+        fault("loanz 3", 0);
         fault("brass to 3 from 4", 6);
         fault("brass 3 to 4", 6);
         fault("brass ; from 3 to 4", 6);

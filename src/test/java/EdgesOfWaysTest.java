@@ -101,6 +101,8 @@ public final class EdgesOfWaysTest {
             .with("handle 0 0 1").refuses("two 0 1", Check.NONE).with("handle 0 8 9").asks("two 0 1", 1);
         sentence("24: the last two").with("member 0").with(6, "handle 0 5 6").with("handle 0 0 1", "handle 0 1 2").asks("two 0 2", 67)
             .with("set 7 1 2", "set 7 2 1").asks("two 0 2", 67);
+        sentence("24: those tried ahead are not LENT").with("member 0", "handle 0 5 6", "handle 0 6 7", "handle 0 7 8", "handle 0 0 1", "handle 0 1 2")
+            .asks("two 0 2", 34).asks("wanted 0 1", 3);
         sentence("24: of several the least").with("member 0", "handle 0 1 2", "handle 0 3 2", "handle 0 0 3", "handle 0 0 1")
             .asks("two 0 2", 3).with("set 0 3 99").asks("two 0 2", 12).with("set 1 3 99").refuses("two 0 2", Check.NONE);
     }
