@@ -99,6 +99,8 @@ public final class EdgesOfWaysTest {
         furnished("24: NONE").refuses("two 1 15", Check.NONE).refuses("two 0 15", Check.NONE);
         sentence("24: NONE: no HANDLES, one HANDLE").with("member 0").refuses("two 0 1", Check.NONE)
             .with("handle 0 0 1").refuses("two 0 1", Check.NONE).with("handle 0 8 9").asks("two 0 1", 1);
+        sentence("24: NONE of 8 HANDLES").with("member 0").with(8, "handle 0 5 6").refuses("two 0 5", Check.NONE).refuses("wanted 0 5", Check.NONE)
+            .refuses("next 0 5", Check.NONE).refuses("way 0 5", Check.NONE);
         sentence("24: the last two").with("member 0").with(6, "handle 0 5 6").with("handle 0 0 1", "handle 0 1 2").asks("two 0 2", 67)
             .with("set 7 1 2", "set 7 2 1").asks("two 0 2", 67);
         sentence("24: those tried ahead are not LENT").with("member 0", "handle 0 5 6", "handle 0 6 7", "handle 0 7 8", "handle 0 0 1", "handle 0 1 2")
