@@ -1,20 +1,14 @@
-import java.io.IOException;
 import java.lang.reflect.Constructor;
 import java.lang.reflect.Field;
 import java.lang.reflect.Method;
 import java.lang.reflect.Modifier;
-import java.nio.file.Files;
-import java.nio.file.Path;
 import java.util.Arrays;
 import java.util.Set;
 import java.util.TreeSet;
-import java.util.regex.Matcher;
-import java.util.regex.Pattern;
 
-/** The public face of the document and no other, and those rules of LANGUAGE.md that can be seen from outside. */
+/** The public face of the document and no other; LanguageTest looks at what stands inside. */
 public final class FaceTest {
     private static final Check CHECK = new Check();
-    private static final Path SOURCE = Path.of("src/main/java/HandleLoans.java");
 
     private static final String FACE = "int handle(int,int,int) int of(int,int) int set(int,int,int) int turn(int,int) "
         + "int as(int,int) int leads(int,int) int pair(int,int) int member(int) int about(int,int) "
@@ -25,11 +19,9 @@ public final class FaceTest {
         + "long write(int,int,long) int copy(int,int,int,int,int) int lays(int) int book(int,int) int read(int,int) "
         + "int image() int undo() int tear() int count(int) int status(int)";
 
-    public static void main(String[] args) throws IOException {
+    public static void main(String[] args) {
         face();
         others();
-        inside();
-        words();
         CHECK.end();
     }
 
@@ -73,26 +65,6 @@ public final class FaceTest {
             for (Method m : c.getDeclaredMethods()) {
                 CHECK.holds(m + " bears a name of its own", !publicNames.contains(m.getName()));
             }
-        }
-    }
-
-    private static void inside() {
-        Class<?>[] classes = HandleLoans.class.getDeclaredClasses();
-        CHECK.holds("at most twelve classes", classes.length < 12);
-        for (Class<?> c : classes) {
-            CHECK.holds(c + " is private and static",
-                Modifier.isPrivate(c.getModifiers()) && Modifier.isStatic(c.getModifiers()));
-            long fields = Arrays.stream(c.getDeclaredFields()).filter(f -> !Modifier.isStatic(f.getModifiers())).count();
-            CHECK.holds(c + " has at most twenty fields", fields <= 20);
-        }
-    }
-
-    private static void words() throws IOException {
-        String source = Files.readString(SOURCE).replaceAll("(?s)/\\*.*?\\*/", "").replaceAll("//[^\n]*", "");
-        Matcher wrong = Pattern.compile("\\b(throw|try|catch|synchronized|assert|import|package|Exact|native)\\b|->|::")
-            .matcher(source);
-        while (wrong.find()) {
-            CHECK.holds("no " + wrong.group(), false);
         }
     }
 }
